@@ -11,6 +11,7 @@ public final class SmallKalah {
 
     private static final int HOUSES = 6;
     private static final int HOUSES_OF_ONE = 3;
+    // The store of player p is the place STORE_A + p.
     private static final int STORE_A = 6;
     private static final int STORE_B = 7;
     private static final int PLACES = 8;
@@ -188,14 +189,6 @@ public final class SmallKalah {
         return h >= 0 && h < HOUSES;
     }
 
-    private static int ownerOf(int h) {
-        return h < HOUSES_OF_ONE ? 0 : 1;
-    }
-
-    private static int storeOf(int player) {
-        return player == 0 ? STORE_A : STORE_B;
-    }
-
     private int seedsInHouses() {
         int sum = 0;
         for (int h = 0; h < HOUSES; h++) {
@@ -204,22 +197,12 @@ public final class SmallKalah {
         return sum;
     }
 
-    private static int seedsOf(int[] places, int player) {
-        int sum = 0;
-        for (int h = 0; h < HOUSES; h++) {
-            if (ownerOf(h) == player) {
-                sum += places[h];
-            }
-        }
-        return sum;
-    }
-
     private static boolean isOver(int[] places) {
-        return seedsOf(places, 0) == 0 || seedsOf(places, 1) == 0;
+        return places[0] + places[1] + places[2] == 0 || places[3] + places[4] + places[5] == 0;
     }
 
-    private static boolean isMove(int[] places, int player, int h) {
-        return ownerOf(h) == player && places[h] > 0 && !isOver(places);
+    private static boolean isMove(int[] places, int player, int house) {
+        return house / HOUSES_OF_ONE == player && places[house] > 0 && !isOver(places);
     }
 
     private static void copyBoard(int[] from, int[] to) {
@@ -253,58 +236,47 @@ public final class SmallKalah {
         if (isOver(places)) {
             bringHome(places);
         }
-        return last == storeOf(player) ? player : 1 - player;
+        return last == STORE_A + player ? player : 1 - player;
     }
 
     /** Answers the place that the last seed came into. */
     private static int sow(int[] places, int player, int house) {
+        int ownStore = STORE_A + player;
+        int ownLast = player * HOUSES_OF_ONE + HOUSES_OF_ONE - 1;
+        int othersFirst = (1 - player) * HOUSES_OF_ONE;
         int inHand = places[house];
         places[house] = 0;
         int at = house;
         for (int i = 0; i < inHand; i++) {
-            at = placeAfter(at, player);
+            if (at == ownLast) {
+                at = ownStore;
+            } else if (at == ownStore) {
+                at = othersFirst;
+            } else {
+                // From the other player's last house straight on: their store is passed by.
+                at = (at + 1) % HOUSES;
+            }
             places[at]++;
         }
         return at;
     }
 
-    /** The next place going round, without the other player's store. */
-    private static int placeAfter(int at, int player) {
-        if (at == HOUSES_OF_ONE - 1) {
-            return player == 0 ? STORE_A : HOUSES_OF_ONE;
-        }
-        if (at == HOUSES - 1) {
-            return player == 1 ? STORE_B : 0;
-        }
-        if (at == STORE_A) {
-            return HOUSES_OF_ONE;
-        }
-        if (at == STORE_B) {
-            return 0;
-        }
-        return at + 1;
-    }
-
     private static void capture(int[] places, int player, int last) {
-        if (!isHouse(last) || ownerOf(last) != player) {
+        if (last >= HOUSES || last / HOUSES_OF_ONE != player) {
             return;
         }
         int opposite = HOUSES - 1 - last;
         // One seed there now means that none was there before the last one came.
-        if (places[last] != 1 || places[opposite] == 0) {
-            return;
+        if (places[last] == 1 && places[opposite] > 0) {
+            places[STORE_A + player] += 1 + places[opposite];
+            places[last] = 0;
+            places[opposite] = 0;
         }
-        int store = storeOf(player);
-        places[store] += 1 + places[opposite];
-        places[last] = 0;
-        places[opposite] = 0;
     }
 
     private static void bringHome(int[] places) {
         for (int h = 0; h < HOUSES; h++) {
-            int owner = ownerOf(h);
-            int store = storeOf(owner);
-            places[store] += places[h];
+            places[STORE_A + h / HOUSES_OF_ONE] += places[h];
             places[h] = 0;
         }
     }
@@ -394,9 +366,9 @@ public final class SmallKalah {
     /** The lead that comes of the layout if the player to move plays for the one favoured. */
     private int leadFor(int[] leads, int player, int favoured) {
         if (isOver(layout)) {
-            int ofA = seedsOf(layout, 0);
-            int ofB = seedsOf(layout, 1);
-            return ofA - ofB;
+            copyBoard(layout, trial);
+            bringHome(trial);
+            return trial[STORE_A] - trial[STORE_B];
         }
         int found = favoured == 0 ? -NO_LEAD : NO_LEAD;
         for (int h = 0; h < HOUSES; h++) {
