@@ -51,6 +51,7 @@ public final class SmallKalah {
     private final int[] fairLeads = new int[STATES];
     private final int[] leastLeads = new int[STATES];
 
+    // Boards beside the game's own, to fill the table and to try moves on.
     private final int[] layout = new int[PLACES];
     private final int[] trial = new int[PLACES];
     private final int[] line = new int[PLACES];
