@@ -1,6 +1,7 @@
 /**
- * The promises of the document one by one, with answers worked out by hand from its words:
- * ordinary inputs, the edges it names, and wrong inputs.
+ * The promises of the document one by one: ordinary inputs, the edges it names, and wrong inputs.
+ * The answers are worked out by hand from its words, but for value, after, best, length and worst
+ * of the first board, which are those of ../shared/tests.
  */
 public final class PromisesTest {
     private static final int BAD_ARG = -1000;
