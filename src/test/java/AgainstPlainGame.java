@@ -14,6 +14,9 @@ import java.util.Map;
 public final class AgainstPlainGame {
     private static final int CALLS_OF_ONE_OBJECT = 512;
     private static final int RUNS = 400;
+
+    // Fewer than the 20 that can be taken back, so that limit is never reached.
+    private static final int MOST_MOVES = 11;
     private static int wrong = 0;
 
     public static void main(String[] args) {
@@ -266,7 +269,7 @@ public final class AgainstPlainGame {
                 }
             }
         }
-        System.out.println("the longest game has " + most + " moves");
+        due("the moves of the longest game", most, MOST_MOVES);
         SmallKalah x = setUp(start, 0, 0, mover);
         Plain plain = Plain.of(start, 0, 0, mover);
         Deque<Plain> boards = new ArrayDeque<>();
