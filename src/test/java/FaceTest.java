@@ -5,7 +5,12 @@ import java.lang.reflect.Method;
 import java.lang.reflect.Modifier;
 import java.nio.file.Files;
 import java.nio.file.Path;
+import java.util.ArrayList;
+import java.util.Collections;
+import java.util.List;
+import java.util.Map;
 import java.util.Set;
+import java.util.TreeMap;
 import java.util.TreeSet;
 import java.util.regex.Matcher;
 import java.util.regex.Pattern;
@@ -20,6 +25,9 @@ public final class FaceTest {
             "int put(int,int)", "int stores(int,int)", "int turn(int)", "int seeds(int)",
             "int toMove()", "boolean over()", "int play(int)", "int undo()", "int value()",
             "int after(int)", "int best()", "int moves()", "int length()", "int worst()");
+    private static final int MOST_LINES = 60;
+    private static final int DEEPEST_CALLS = 6;
+    private static final int MOST_FIELDS = 40;
     private static final Set<String> CONSTANTS = Set.of("BAD_ARG", "FULL", "NONE");
     private static final String FORBIDDEN_WORDS =
             "import|package|throw|throws|try|catch|finally|synchronized|assert|instanceof|null"
@@ -33,6 +41,7 @@ public final class FaceTest {
         theMethods();
         theFields();
         theWords();
+        theCalls();
         System.out.println(wrong == 0 ? "the face is as due" : wrong + " faults of the face");
         if (wrong != 0) {
             System.exit(1);
@@ -83,8 +92,10 @@ public final class FaceTest {
 
     private static void theFields() {
         Set<String> seen = new TreeSet<>();
+        int held = 0;
         for (Field f : SmallKalah.class.getDeclaredFields()) {
             int mods = f.getModifiers();
+            held += Modifier.isStatic(mods) ? 0 : 1;
             must(Modifier.isPublic(mods) || Modifier.isPrivate(mods), f + " is visible");
             must(!Modifier.isStatic(mods) || Modifier.isFinal(mods)
                     && (f.getType() == int.class || f.getType() == long.class),
@@ -95,11 +106,16 @@ public final class FaceTest {
             }
         }
         must(seen.equals(CONSTANTS), "the public constants are " + seen);
+        must(held <= MOST_FIELDS, "there are " + held + " fields");
+    }
+
+    private static String source() throws IOException {
+        return Files.readString(Path.of(SOURCE))
+                .replaceAll("(?s)/\\*.*?\\*/", " ").replaceAll("//.*", " ");
     }
 
     private static void theWords() throws IOException {
-        String text = Files.readString(Path.of(SOURCE))
-                .replaceAll("(?s)/\\*.*?\\*/", " ").replaceAll("//.*", " ");
+        String text = source();
         Matcher found = Pattern.compile("\\b(" + FORBIDDEN_WORDS + ")\\b").matcher(text);
         while (found.find()) {
             must(false, "the source has the word " + found.group());
@@ -115,5 +131,39 @@ public final class FaceTest {
         while (within.find()) {
             must(false, "a call stands inside a call: " + within.group());
         }
+    }
+
+    /** Methods are short, none comes back to itself, and calls go no deeper than the rules let. */
+    private static void theCalls() throws IOException {
+        Map<String, String> bodies = new TreeMap<>();
+        Matcher method = Pattern.compile("(?ms)^    (?:public|private) [^;={]*?(\\w+)\\([^;={]*?\\{\\n"
+                + "(.*?)^    \\}\\n").matcher(source());
+        while (method.find()) {
+            must(method.group().lines().count() <= MOST_LINES, method.group(1) + " is long");
+            must(bodies.put(method.group(1), method.group(2)) == null,
+                    method.group(1) + " is there twice");
+        }
+        int declared = SmallKalah.class.getDeclaredMethods().length + 1;
+        must(bodies.size() == declared, bodies.size() + " of " + declared + " methods were found");
+        for (String name : bodies.keySet()) {
+            int depth = deepest(name, bodies, new ArrayList<>());
+            must(depth <= DEEPEST_CALLS, name + " goes " + depth + " calls deep");
+        }
+    }
+
+    private static int deepest(String name, Map<String, String> bodies, List<String> above) {
+        if (above.contains(name)) {
+            must(false, name + " comes back to itself by " + above);
+            return 0;
+        }
+        List<String> path = new ArrayList<>(above);
+        path.add(name);
+        List<Integer> below = new ArrayList<>(List.of(0));
+        for (String other : bodies.keySet()) {
+            if (Pattern.compile("\\b" + other + "\\(").matcher(bodies.get(name)).find()) {
+                below.add(deepest(other, bodies, path));
+            }
+        }
+        return 1 + Collections.max(below);
     }
 }
